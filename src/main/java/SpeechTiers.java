@@ -724,7 +724,7 @@ public final class SpeechTiers {
 
         /** A mark more, in its place by time: its number; NONE: there is no room. */
         int insert(int from, int to, int letters) {
-            if (isFull()) {
+            if (count >= MOST_MARKS) {
                 return NONE;
             }
             int place = count;
@@ -1364,7 +1364,8 @@ public final class SpeechTiers {
             sheet.clear();
             advance();
             for (int line = 0; line < MOST_BYTES && token != END; line++) {
-                if (!readLine()) {
+                boolean read = isWord("tier") ? readTierLine() : readMarkLine();
+                if (!read) {
                     return false;
                 }
                 if (!isSemicolon()) {
@@ -1494,14 +1495,6 @@ public final class SpeechTiers {
 
         // -- lines
 
-        boolean readLine() {
-            if (isWord("tier")) {
-                return readTierLine();
-            }
-            int verb = verbThere();
-            return verb == NONE ? fail(UNFIT, start) : readMarkLine(verb);
-        }
-
         boolean readTierLine() {
             if (sheet.count >= MOST_TIERS) {
                 return fail(TOO_MANY, start);
@@ -1541,7 +1534,11 @@ public final class SpeechTiers {
         }
 
         /** A line of a mark: laws are looked at behind its numbers, ahead of its label. */
-        boolean readMarkLine(int verb) {
+        boolean readMarkLine() {
+            int verb = verbThere();
+            if (verb == NONE) {
+                return fail(UNFIT, start);
+            }
             advance();
             int tier = tierThere();
             int where = start;
