@@ -127,6 +127,9 @@ public final class EditTest {
         Check.state("the only one", () -> x.take(1, 3));
         Check.due("take: the one ahead goes on", x.take(1, 1), 1);
         Check.marks("pieces", x, 1, "0-7 7-10:y 10-20");
+        Check.due("an act", x.undo(), 0);
+        Check.marks("taken back", x, 1, "0-4 4-7:x 7-10:y 10-20");
+        x.take(1, 1);
         Check.marks("nothing else", x, 2, "0-4 4-5 5-7:z 7-10 10-20");
         Check.marks("nothing else", x, 3, "4-6");
         Check.marks("nothing else", x, 4, "7-7");
@@ -196,6 +199,10 @@ public final class EditTest {
         for (int i = 0; i < 40; i++) {
             Check.due("put", y.put(0, 2 * i, 2 * i + 2), i);
         }
+        Check.due("forty moved", y.move(0, 80, 81), 1);
+        Check.due("forty silent", y.silence(0, 900), 40);
+        y.undo();
+        y.undo();
         Check.state("a 41st", () -> y.put(0, 80, 81));
         Check.state("a 41st", () -> y.split(0, 0, 1));
     }
@@ -305,6 +312,8 @@ public final class EditTest {
         print[acts++] = x.print();
         x.point(2, 75);
         print[acts++] = x.print();
+        x.take(2, 0);
+        x.undo();
         x.take(0, 0);
         print[acts++] = x.print();
         x.split(0, 0, 55);

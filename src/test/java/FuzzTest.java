@@ -170,7 +170,8 @@ public final class FuzzTest {
             }
         }
         run.append("\n  [").append(text).append(']');
-        return call("text", bytes.length);
+        int cut = random.nextInt(10) == 0 ? random.nextInt(bytes.length + 1) : bytes.length;
+        return call("text", cut);
     }
 
     // ---- arguments

@@ -3,6 +3,7 @@ public final class OtherTest {
     public static void main(String[] args) {
         keeps();
         none();
+        gone();
         adopts();
         snaps();
         snapsInOrder();
@@ -62,6 +63,22 @@ public final class OtherTest {
         Check.due("agree", x.agree(0, 0), -1);
         Check.due("same", x.same(0, 999, 1), -1);
         Check.due("no act", x.told(3), 0);
+    }
+
+    /** Marks that were taken away ahead of keep() are nowhere in the other. */
+    private static void gone() {
+        SpeechTiers x = Check.told("tier a free;tier p points;mark a 0 5;mark a 7 9 k;point p 5;point p 9;");
+        x.keep();
+        x.snap(1, 5);
+        x.take(0, 1);
+        x.take(1, 1);
+        x.keep();
+        x.put(0, 7, 9);
+        x.point(1, 9);
+        x.take(1, 0);
+        Check.due("no label of a mark that is gone", x.adopt(0), 0);
+        Check.due("no time of a point that is gone", x.snap(1, 5), 1);
+        Check.marks("no time of a point that is gone", x, 1, "5-5");
     }
 
     private static void adopts() {

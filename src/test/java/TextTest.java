@@ -4,6 +4,7 @@ public final class TextTest {
         newObject();
         feeds();
         texts();
+        cutShort();
         kindsOfTiers();
         marksInTexts();
         labelsInTexts();
@@ -61,6 +62,27 @@ public final class TextTest {
         Check.due("text(0)", x.text(0), 0);
         Check.due("all anew", x.told(0), 0);
         Check.due("fault()", x.fault(), -1);
+    }
+
+    /** What stands on the tape behind the first n bytes is no part of the text. */
+    private static void cutShort() {
+        SpeechTiers x = new SpeechTiers();
+        Check.feed(x, "tier a free;tier b points;point b 999;");
+        Check.due("text(10)", x.text(10), -9);
+        Check.due("within a word", x.fault(), 7);
+        Check.feed(x, "tier a free;tier b points;point b 999;");
+        Check.due("text(35)", x.text(35), -9);
+        Check.due("within a number", x.fault(), 35);
+        Check.feed(x, "tier a free;tier b points;point b 999;");
+        Check.due("text(37)", x.text(37), -9);
+        Check.due("ahead of ';'", x.fault(), 37);
+        Check.feed(x, "tier a free;tier b points;point b 999;");
+        Check.due("text(38)", x.text(38), 1);
+        String blanks = " ".repeat(388);
+        Check.due("400 bytes", Check.tell(x, blanks + "tier a free;"), 0);
+        Check.fault(blanks + "tier ab free", 1, 400);
+        Check.fault(blanks + "tier abcd in", 1, 400);
+        Check.fault(" ".repeat(371) + "tier abcd free;mark abcd 5 99", 1, 400);
     }
 
     private static void kindsOfTiers() {
