@@ -10,6 +10,7 @@ final class Check {
 
     private static int checks = 0;
     private static int wrong = 0;
+    private static int sentences = 0;
 
     private Check() {
     }
@@ -19,6 +20,25 @@ final class Check {
         if (got != want) {
             wrong++;
             System.out.println(what + " answered " + got + ", due is " + want);
+        }
+    }
+
+    /** One sentence of the document, with a test of its own that goes on its own. */
+    static void sentence(String words, Runnable test) {
+        int checksBefore = checks;
+        int wrongBefore = wrong;
+        sentences++;
+        try {
+            test.run();
+        } catch (RuntimeException e) {
+            wrong++;
+            System.out.println("a call threw " + e);
+        }
+        if (wrong > wrongBefore || checks == checksBefore) {
+            System.out.println("  does not hold: \"" + words + "\"");
+        }
+        if (checks == checksBefore) {
+            wrong++;
         }
     }
 
@@ -105,6 +125,13 @@ final class Check {
         }
     }
 
+    /** Puts forty marks of one time each, with as much between them, on a tier without any. */
+    static void fill(SpeechTiers x, int tier) {
+        for (int m = 0; m < 40; m++) {
+            due("mark " + m, x.put(tier, 2 * m, 2 * m + 1), m);
+        }
+    }
+
     static int letters(String word) {
         int packed = 0;
         for (char c : word.toCharArray()) {
@@ -128,7 +155,8 @@ final class Check {
     }
 
     static void finish() {
-        System.out.println(checks + " answers looked at, " + wrong + " not as due");
+        String of = sentences > 0 ? " of " + sentences + " sentences" : "";
+        System.out.println(checks + " answers" + of + " looked at, " + wrong + " not as due");
         if (wrong != 0 || checks == 0) {
             System.exit(1);
         }
