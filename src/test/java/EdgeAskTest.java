@@ -9,6 +9,7 @@ public final class EdgeAskTest {
         labels();
         gapsAndStops();
         theOther();
+        fullAndGone();
         printAndStatus();
         Check.finish();
     }
@@ -633,6 +634,159 @@ public final class EdgeAskTest {
             Check.due("print", x.print(), print);
             Check.due("status", x.status(0) + x.status(1) + x.status(2), 0);
         }
+    }
+
+    // ---- what is full, what is gone
+
+    private static void fullAndGone() {
+        Check.sentence("6 TIERS, 40 MARKS at most: all is answered of as many", EdgeAskTest::full);
+        Check.sentence("6 TIERS, 40 MARKS at most: laid beside as many", EdgeAskTest::fullBeside);
+        Check.sentence("TAKEN AWAY: the MARK goes, nothing asked finds it", EdgeAskTest::goneMarks);
+        Check.sentence("text: tell all anew: nothing asked finds a TIER of the TEXT ahead of it", EdgeAskTest::goneTiers);
+        Check.sentence("keep: THE OTHER has nothing of what was THE OTHER ahead of it", EdgeAskTest::goneOther);
+    }
+
+    /** Six tiers of forty marks each: the last one of each is the last of all that there can be. */
+    private static SpeechTiers six() {
+        SpeechTiers x = Check.told("tier a free;tier b cut a;tier c in b;tier d cut c;tier e points d;tier f points;");
+        Check.fill(x, 0);
+        for (int m = 0; m < 40; m++) {
+            x.put(2, 2 * m, 2 * m + 1);
+            x.point(4, 2 * m + 1);
+            x.point(5, 960 + m);
+        }
+        return x;
+    }
+
+    private static void full() {
+        SpeechTiers x = six();
+        Check.due("MARKS in all", x.told(1), 240);
+        for (int t = 0; t < 6; t++) {
+            int tier = t;
+            boolean points = t >= 4;
+            int last = t == 5 ? 999 : 79;
+            int from = points ? last : 78;
+            all("tier " + t, what -> x.tier(tier, what), new int[] {0, 1, 2, 1, 3, 3}[t],
+                    new int[] {-1, 0, 1, 2, 3, -1}[t], 40, new int[] {0, 1, 2, 3, 4, 0}[t], t == 5 ? 5 : 0,
+                    points ? 0 : 40, t < 4 ? 1 : 0, t == 5 ? 40 : 80);
+            int ends = t == 5 ? 1 : points ? 5 : 4;
+            all("the last of " + t, what -> x.mark(tier, 39, what), from, last, 0, t == 0 || t == 5 ? -1 : 39,
+                    t < 4 ? 1 : 0, ends, t == 5 ? 1 : 5);
+            Check.missing("a 41st of " + t, () -> x.mark(tier, 40, 0));
+            Check.due("at", x.at(t, from), 39);
+            all("over", what -> x.over(tier, from - 1, 999, what), 1, t == 5 ? 38 : 39, points ? 0 : 1);
+            all("within", what -> x.within(0, 39, tier, what), t == 5 ? 0 : 1, t == 5 ? -1 : 39, points ? 0 : 1);
+            Check.due("find", x.find(t, 0, 39), 39);
+            Check.due("find", x.find(t, 0, 40), -1);
+            Check.due("together", x.together(t, 0, 0, 0), points ? 0 : 40);
+            Check.due("together", x.together(0, 0, t, 0), points ? 0 : 40);
+            all("longest", what -> x.longest(tier, 0, what), 0, points ? 0 : 1, 40, points ? 0 : 40);
+            boolean gaps = t == 0;
+            all("gaps", what -> x.gaps(tier, what), gaps ? 39 : 0, gaps ? 0 : -1, gaps ? 1 : 0, gaps ? 39 : 0);
+            Check.due("stop", x.stop(t, t == 5 ? 39 : 79), last);
+            all("room", what -> x.room(tier, last, what), t == 5 ? 999 : 79, 999);
+            if (t < 4) {
+                Check.state("join of the 40th", () -> x.join(tier, 39));
+            }
+        }
+    }
+
+    private static void fullBeside() {
+        SpeechTiers x = six();
+        Check.due("keep", x.keep(), 240);
+        for (int t = 0; t < 6; t++) {
+            int tier = t;
+            all("agree", what -> x.agree(tier, what), t < 4 ? 40 : 0, 0, 0, 0);
+            all("same", what -> x.same(tier, 0, what), t < 4 ? 80 : 40, 0);
+            Check.due("adopt", x.adopt(t), 0);
+            Check.due("snap", x.snap(t, 999), 0);
+        }
+        Check.due("move the last", x.move(0, 79, 500), 5);
+        all("agree", what -> x.agree(3, what), 40, 0, 421, 0);
+        Check.due("snap it back", x.snap(2, 421), 1);
+        Check.due("label", x.label(5, 39, 7), 0);
+        x.keep();
+        x.undo();
+        Check.due("adopt the last", x.adopt(5), 1);
+        Check.due("adopt the last", x.mark(5, 39, 2), 7);
+        Check.due("take the last", x.take(0, 39), 5);
+        Check.due("what is left", x.told(1), 235);
+        Check.due("silence behind all", x.silence(999, 999), 0);
+        x.take(5, 39);
+        Check.due("silence: the STOPS of 39 and 39", x.silence(0, 1), 77 + 39);
+        Check.due("the last of all", x.mark(5, 38, 0), 999);
+    }
+
+    private static void goneMarks() {
+        SpeechTiers x = Check.told("tier a free;tier p points;mark a 0 5 k;mark a 5 9 k;mark a 20 40 k;point p 7 k;");
+        x.take(0, 1);
+        x.take(0, 1);
+        x.take(1, 0);
+        Check.due("at", x.at(0, 20), -1);
+        Check.due("at", x.at(1, 7), -1);
+        all("over", what -> x.over(0, 4, 999, what), 1, 0, 1);
+        all("over, a POINT", what -> x.over(1, 0, 999, what), 0, -1, 0);
+        all("within", what -> x.within(0, 0, 1, what), 0, -1, 0);
+        all("within", what -> x.within(0, 0, 0, what), 1, 0, 5);
+        Check.due("find", x.find(0, 11, 1), -1);
+        Check.due("together", x.together(0, 11, 0, 11), 5);
+        all("longest", what -> x.longest(0, 11, what), 0, 5, 1, 5);
+        all("gaps", what -> x.gaps(0, what), 0, -1, 0, 0);
+        Check.due("stop", x.stop(0, 2), -1);
+        Check.due("STOPS", x.tier(0, 7), 2);
+        Check.due("STOPS of POINTS", x.tier(1, 7), 0);
+        all("room", what -> x.room(0, 5, what), 1, 999);
+        Check.missing("room", () -> x.room(0, 9, 0));
+        Check.missing("move", () -> x.move(0, 40, 41));
+        Check.state("join", () -> x.join(0, 0));
+        Check.missing("mark", () -> x.mark(0, 1, 0));
+        Check.due("put", x.put(0, 5, 40), 1);
+        Check.due("no LABEL of those", x.mark(0, 1, 2), 0);
+        Check.due("point", x.point(1, 7), 0);
+        Check.due("no LABEL of those", x.mark(1, 0, 2), 0);
+    }
+
+    private static void goneTiers() {
+        SpeechTiers x = Check.told("tier a free;tier b cut a;tier c in a;tier d points a;tier e points;tier f free;"
+                + "mark a 0 900 k;mark c 3 7;point d 6;point e 990;mark f 50 999;");
+        Check.tell(x, "tier a free;mark a 2 10;");
+        Check.due("TIERS", x.told(0), 1);
+        Check.due("MARKS", x.told(1), 1);
+        Check.due("FAMILIES", x.told(2), 1);
+        Check.due("TIERS right below", x.tier(0, 6), 0);
+        Check.due("STOPS", x.tier(0, 7), 2);
+        Check.due("stop", x.stop(0, 2), -1);
+        all("mark", what -> x.mark(0, 0, what), 2, 10, 0, -1, 0, 1, 1);
+        all("room", what -> x.room(0, 2, what), 0, 9);
+        all("room", what -> x.room(0, 10, what), 3, 999);
+        Check.missing("tier", () -> x.tier(1, 0));
+        Check.due("split where IN was", x.split(0, 0, 5), 1);
+        Check.due("silence", x.silence(2, 600), 2);
+        Check.due("move", x.move(0, 605, 3), 2);
+        Check.due("take", x.take(0, 0), 1);
+        Check.due("keep", x.keep(), 1);
+        Check.due("print", x.print(), (3 * 31L + 610) * 31 * 31);
+        Check.due("undo", x.undo(), 3);
+    }
+
+    private static void goneOther() {
+        SpeechTiers x = Check.told("tier a free;tier b free;mark a 0 5 k;mark a 7 9 l;mark b 0 9;");
+        x.keep();
+        x.take(0, 1);
+        Check.due("keep", x.keep(), 2);
+        x.undo();
+        x.label(0, 1, 0);
+        Check.due("adopt", x.adopt(0), 0);
+        all("agree", what -> x.agree(0, what), 5, 0, 2, 0);
+        all("same", what -> x.same(0, 0, what), 2, 0);
+        Check.due("snap", x.snap(0, 1), 0);
+        Check.tell(x, "tier a free;");
+        Check.due("keep", x.keep(), 0);
+        Check.tell(x, "tier a free;tier b free;mark a 7 9;mark b 0 9;");
+        Check.due("no MARKS", x.agree(0, 2), 2);
+        Check.due("no TIMES", x.snap(0, 999), 0);
+        Check.due("no TIER of this NAME", x.agree(1, 0), -1);
+        Check.due("no TIER of this NAME", x.adopt(1), -1);
     }
 
     // ---- promises 31, 32

@@ -330,7 +330,7 @@ public final class EdgeEditTest {
     }
 
     private static void silenceLength() {
-        SpeechTiers x = Check.told("tier p points;point p 0;");
+        SpeechTiers x = Check.told("tier p points;tier a free;point p 0;");
         Check.argument("0", () -> x.silence(0, 0));
         Check.argument("-1", () -> x.silence(0, -1));
         Check.argument("1000", () -> x.silence(0, 1000));
@@ -371,6 +371,11 @@ public final class EdgeEditTest {
         Check.state("by one, the MARK", () -> y.silence(0, 1));
         Check.state("by one, the MARK alone", () -> y.silence(998, 1));
         Check.argument("ahead of it", () -> y.silence(0, 1000));
+        SpeechTiers z = Check.told("tier a free;tier b free;mark a 0 999;");
+        Check.state("the first TIER alone", () -> z.silence(0, 1));
+        SpeechTiers w = Check.told("tier a free;tier b free;mark b 0 5;mark b 6 999;");
+        Check.state("the last TIER alone", () -> w.silence(0, 1));
+        Check.due("none of those behind the TIME", w.silence(999, 1), 0);
     }
 
     private static void labelWas() {

@@ -516,6 +516,9 @@ public final class EdgeTermsTest {
         Check.due("one greater", x.move(0, 20, 16), 1);
         Check.state("at the STOP ahead, a FROM", () -> x.move(1, 15, 10));
         Check.due("one greater", x.move(1, 15, 11), 1);
+        SpeechTiers y = Check.told("tier a free;mark a 0 5;mark a 9 12;");
+        Check.state("at the STOP ahead, a TO", () -> y.move(0, 9, 5));
+        Check.due("one greater", y.move(0, 9, 6), 1);
     }
 
     private static void movedBehind() {
@@ -525,6 +528,9 @@ public final class EdgeTermsTest {
         Check.due("one less", x.move(0, 10, 14), 1);
         Check.state("at the STOP behind, a TO", () -> x.move(1, 15, 20));
         Check.due("one less", x.move(1, 15, 19), 1);
+        SpeechTiers y = Check.told("tier a free;mark a 0 5;mark a 9 12;");
+        Check.state("at the STOP behind, a FROM", () -> y.move(0, 5, 9));
+        Check.due("one less", y.move(0, 5, 8), 1);
     }
 
     private static void movedToEnds() {

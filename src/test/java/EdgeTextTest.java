@@ -321,6 +321,13 @@ public final class EdgeTextTest {
         Check.fault("tier ;", 1, 5);
         Check.fault("free a;", 1, 0);
         Check.fault("marks a 0 1;", 1, 0);
+        for (String word : new String[] {"xier", "txer", "tixr", "tiex", "xark", "marx", "xoint", "poinx", "xplit", "splix",
+            "xabel", "labex"}) {
+            Check.fault("tier a points;" + word + " a 0 k;", 1, 14);
+        }
+        for (String word : new String[] {"xree", "frex", "xut", "cux", "xn", "ix", "xoints", "pointx"}) {
+            Check.fault("tier b free;tier a " + word + " b;", 1, 19);
+        }
         Check.fault(FREE + "mark a -1 5;", 1, 19);
         Check.fault(FREE + "mark a b 5;", 1, 19);
         Check.fault(FREE + "mark a 1 b;", 1, 21);
