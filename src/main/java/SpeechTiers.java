@@ -616,7 +616,7 @@ public final class SpeechTiers {
         int count;
 
         Times(int most) {
-            times = new int[most];
+            times = new int[Math.max(0, most)];
         }
 
         void clear() {
